@@ -690,12 +690,14 @@ public final class MarkerWalks {
             if (k < 1 || k > lines || Integer.bitCount(set) < 2) {
                 return 0;
             }
-            int without = mostPairs(k - 1, set);
             int both = endsAsSet(k - 1);
             if ((set & both) != both) {
-                return without;
+                return mostPairs(k - 1, set);
             }
-            return Math.max(without, 1 + mostPairs(k - 1, set & ~both));
+            int with = 1 + mostPairs(k - 1, set & ~both);
+            // where all POINTS are paired, but one at most, the other half of the search can find no more
+            boolean enough = with == Integer.bitCount(set) / 2;
+            return enough ? with : Math.max(with, mostPairs(k - 1, set));
         }
 
         /** A number is least, if it does without each high bit that it can do without, the highest first. */

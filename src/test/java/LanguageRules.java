@@ -1,0 +1,205 @@
+import java.lang.management.ManagementFactory;
+import java.lang.reflect.Constructor;
+import java.lang.reflect.Field;
+import java.lang.reflect.Method;
+import java.lang.reflect.Modifier;
+import java.nio.charset.StandardCharsets;
+import java.nio.file.Files;
+import java.nio.file.Path;
+import java.util.Arrays;
+import java.util.List;
+import java.util.Set;
+import java.util.TreeSet;
+import java.util.regex.Matcher;
+import java.util.regex.Pattern;
+
+/** The face of the class and those rules of LANGUAGE.md that a machine can see; run from the project's folder. */
+public final class LanguageRules {
+    private static final List<String> FACE = List.of(
+        "points(int)", "line(int,int,int)", "way(int,int)", "cut(int)", "ends(int,int)", "at(int,int)", "sides()",
+        "pairing(int,int)", "needed()", "kernel(int)", "feed(long,int)", "network()", "begin(int,int)", "go(int)",
+        "back()", "game(int)", "moved(int)", "moves(int)", "worth(int)", "reach()", "starts(int)", "tells(int)",
+        "play(int,int,int)", "fight(int,int,int)", "tree(int)", "node(int)", "sheet(int,int,int)", "put(int,int,int)",
+        "number(int,int)", "copy(int,int,int,int,int)", "degrees(int,int)", "walks(int,int)", "seed(int)", "image()",
+        "restore()", "count(int)", "told(int)");
+    private static final String[] FORBIDDEN = {
+        "\\bthrow\\b", "\\btry\\b", "\\bcatch\\b", "\\bsynchronized\\b", "\\bassert\\b", "\\bprotected\\b", "->", "::",
+        "\\bstatic\\s*\\{", "Exact\\b", "\\bpackage\\b", "\\bvolatile\\b", "\\bThread\\b", "\\bRandom\\b", "\\bdouble\\b",
+        "currentTimeMillis", "nanoTime", "\\bObject\\b", "\\.equals\\(", "hashCode", "toString"};
+
+    private static int wrong;
+
+    private static void fault(String text) {
+        wrong++;
+        System.out.println(text);
+    }
+
+    public static void main(String[] args) throws Exception {
+        face();
+        nestedClasses();
+        source(Files.readString(Path.of("src/main/java/MarkerWalks.java"), StandardCharsets.US_ASCII));
+        room();
+        System.out.println(wrong == 0 ? "the rules are kept" : wrong + " rules are broken");
+        if (wrong != 0) {
+            System.exit(1);
+        }
+    }
+
+    private static void face() {
+        Class<?> c = MarkerWalks.class;
+        if (!Modifier.isPublic(c.getModifiers()) || !Modifier.isFinal(c.getModifiers())) {
+            fault("the class isn't public and final");
+        }
+        Set<String> there = new TreeSet<>();
+        for (Method m : c.getDeclaredMethods()) {
+            if (Modifier.isPrivate(m.getModifiers())) {
+                continue;
+            }
+            if (!Modifier.isPublic(m.getModifiers()) || Modifier.isStatic(m.getModifiers()) || m.getReturnType() != int.class) {
+                fault("not of the face: " + m);
+            }
+            StringBuilder text = new StringBuilder(m.getName()).append('(');
+            for (Class<?> p : m.getParameterTypes()) {
+                text.append(text.charAt(text.length() - 1) == '(' ? "" : ",").append(p.getName());
+            }
+            there.add(text.append(')').toString());
+        }
+        if (!there.equals(new TreeSet<>(FACE))) {
+            fault("the face is " + there);
+        }
+        for (Field f : c.getDeclaredFields()) {
+            if (!Modifier.isPrivate(f.getModifiers())) {
+                fault("a field that isn't private: " + f);
+            }
+        }
+        Constructor<?>[] constructors = c.getDeclaredConstructors();
+        if (constructors.length != 1 || !Modifier.isPublic(constructors[0].getModifiers()) || constructors[0].getParameterCount() != 0) {
+            fault("the constructors are " + Arrays.toString(constructors));
+        }
+    }
+
+    private static void nestedClasses() {
+        Class<?>[] inside = MarkerWalks.class.getDeclaredClasses();
+        if (inside.length > 11) {
+            fault("more than twelve classes");
+        }
+        checkMembers(MarkerWalks.class);
+        for (Class<?> c : inside) {
+            if (!Modifier.isStatic(c.getModifiers()) || Modifier.isPublic(c.getModifiers())) {
+                fault("not static, or public: " + c);
+            }
+            checkMembers(c);
+            for (Method m : c.getDeclaredMethods()) {
+                for (String name : FACE) {
+                    if (name.startsWith(m.getName() + "(")) {
+                        fault("bears the name of a public method: " + m);
+                    }
+                }
+            }
+        }
+    }
+
+    private static void checkMembers(Class<?> c) {
+        int fields = 0;
+        for (Field f : c.getDeclaredFields()) {
+            if (Modifier.isStatic(f.getModifiers()) && !Modifier.isFinal(f.getModifiers())) {
+                fault("a static field that isn't final: " + f);
+            }
+            fields += Modifier.isStatic(f.getModifiers()) ? 0 : 1;
+        }
+        if (fields > 20) {
+            fault("more than twenty fields: " + c);
+        }
+        for (Method m : c.getDeclaredMethods()) {
+            if (m.getParameterCount() > 7) {
+                fault("more than seven parameters: " + m);
+            }
+            boolean nameTaken = c == MarkerWalks.class && Modifier.isPrivate(m.getModifiers())
+                && FACE.stream().anyMatch(name -> name.startsWith(m.getName() + "("));
+            if (nameTaken) {
+                fault("a private method bears the name of a public one: " + m);
+            }
+        }
+    }
+
+    private static void source(String text) {
+        String code = text.replaceAll("(?s)/\\*.*?\\*/", " ").replaceAll("//[^\n]*", " ");
+        for (String rule : FORBIDDEN) {
+            Matcher found = Pattern.compile(rule).matcher(code);
+            if (found.find()) {
+                fault("the source has " + found.group());
+            }
+        }
+        Matcher imports = Pattern.compile("import\\s+([\\w.*]+)").matcher(code);
+        while (imports.find()) {
+            if (!Set.of("java.util.Arrays", "java.util.ArrayList", "java.util.List").contains(imports.group(1))) {
+                fault("imports " + imports.group(1));
+            }
+        }
+        int start = 0;
+        String[] lines = text.split("\n", -1);
+        Pattern head = Pattern.compile("^ {4}(?: {4})?\\S.*\\) \\{$");
+        for (int i = 0; i < lines.length; i++) {
+            if (head.matcher(lines[i]).matches() && !lines[i].matches(".*\\b(if|for|while|switch)\\b.*")) {
+                start = i;
+            }
+            if (lines[i].matches(" {4}(?: {4})?\\}") && i - start > 60) {
+                fault("longer than sixty lines, from line " + (start + 1));
+                start = i;
+            }
+        }
+    }
+
+    /** All calls of a run share one room, so no call may make objects: only what has been made with the object counts. */
+    private static void room() {
+        MarkerWalks x = new MarkerWalks();
+        calls(x);
+        com.sun.management.ThreadMXBean bean = (com.sun.management.ThreadMXBean) ManagementFactory.getThreadMXBean();
+        long id = Thread.currentThread().getId();
+        bean.getThreadAllocatedBytes(id);
+        long before = bean.getThreadAllocatedBytes(id);
+        for (int i = 0; i < 100; i++) {
+            calls(x);
+        }
+        long made = bean.getThreadAllocatedBytes(id) - before;
+        if (made > 2000) {
+            fault("calls make objects: " + made + " bytes");
+        }
+    }
+
+    private static void calls(MarkerWalks x) {
+        x.points(10);
+        for (int i = 0; i < 12; i++) {
+            x.line(i % 10, (i * 3 + 1) % 10, i % 3);
+        }
+        x.feed(0x622D61L, 3);
+        x.network();
+        x.points(5);
+        for (int i = 0; i < 12; i++) {
+            x.line(i % 5, (i + 1 + i / 5) % 5, i % 3);
+        }
+        x.needed();
+        x.sides();
+        x.kernel(-1);
+        x.pairing(31, 1);
+        x.image();
+        x.restore();
+        for (int rule = 0; rule < 5; rule++) {
+            x.starts(rule);
+            x.begin(rule, 0);
+            x.reach();
+            x.worth(0);
+            x.tree(0);
+            x.node(1);
+            x.fight(7654, 4321, 0);
+            x.sheet(0, 8, 12);
+            x.degrees(0, 1);
+            x.walks(0, 1);
+            x.copy(0, 0, 0, 1, 4);
+            x.play(5, 7, 3);
+            x.tells(4);
+            x.back();
+            x.told(9);
+        }
+    }
+}
