@@ -120,7 +120,7 @@ public final class MarkerWalks {
         if (set < 0 || set > net.everyPoint() || what < 0 || what > 1) {
             return fail(BEYOND);
         }
-        return what == 0 ? net.mostPairs(net.lines, set) : net.leastPairing(set);
+        return what == 0 ? net.mostPairs(set) : net.leastPairing(set);
     }
 
     public int needed() {
@@ -685,28 +685,32 @@ public final class MarkerWalks {
             return true;
         }
 
+        int mostPairs(int set) {
+            return pairsAmong(lines, set);
+        }
+
         /** How many of the first k LINES a PAIRING of the set can have. */
-        int mostPairs(int k, int set) {
+        private int pairsAmong(int k, int set) {
             if (k < 1 || k > lines || Integer.bitCount(set) < 2) {
                 return 0;
             }
             int both = endsAsSet(k - 1);
             if ((set & both) != both) {
-                return mostPairs(k - 1, set);
+                return pairsAmong(k - 1, set);
             }
-            int with = 1 + mostPairs(k - 1, set & ~both);
+            int with = 1 + pairsAmong(k - 1, set & ~both);
             // where all POINTS are paired, but one at most, the other half of the search can find no more
             boolean enough = with == Integer.bitCount(set) / 2;
-            return enough ? with : Math.max(with, mostPairs(k - 1, set));
+            return enough ? with : Math.max(with, pairsAmong(k - 1, set));
         }
 
         /** A number is least, if it does without each high bit that it can do without, the highest first. */
         int leastPairing(int set) {
             int chosen = 0;
             int free = set;
-            int due = mostPairs(lines, free);
+            int due = pairsAmong(lines, free);
             for (int i = lines - 1; i >= 0 && due > 0; i--) {
-                if (mostPairs(i, free) < due) {
+                if (pairsAmong(i, free) < due) {
                     chosen |= 1 << i;
                     free &= ~endsAsSet(i);
                     due--;
@@ -717,10 +721,10 @@ public final class MarkerWalks {
 
         /** A greatest PAIRING that goes without a POINT is one of the other POINTS. */
         int neededPoints() {
-            int most = mostPairs(lines, everyPoint());
+            int most = mostPairs(everyPoint());
             int found = 0;
             for (int p = 0; p < size; p++) {
-                if (mostPairs(lines, everyPoint() & ~(1 << p)) < most) {
+                if (mostPairs(everyPoint() & ~(1 << p)) < most) {
                     found |= 1 << p;
                 }
             }

@@ -254,6 +254,8 @@ public final class PromiseTests {
         due("the other way", of("a<b,b<c").kernel(0), 5);
         due("one way of two", of("a<b").kernel(0), 1);
         due("only one", of("a<b").kernel(-1), 1);
+        x.points(4);
+        due("all points", x.kernel(0), 15);
     }
 
     private static void textPromises() {
@@ -483,6 +485,11 @@ public final class PromiseTests {
         due("behind a move", x.reach(), 12);
         x.go(3);
         due("over", x.reach(), 0);
+        x = of("a>b,b>c,c>d,d>e,e>f,f>g,g>h,h>i,i>j,j>a");
+        x.begin(3, 0);
+        due("all around", x.reach(), 1023);
+        x.begin(2, 0);
+        due("all but where it began", x.reach(), 1022);
 
         promise = 22;
         x = of("a-b,b-c");
@@ -537,6 +544,9 @@ public final class PromiseTests {
         MarkerWalks y = of("a-b,a-c,b-d,b-e,c-f");
         y.begin(0, 0);
         due("NARROW", y.tells(6), 1);
+        MarkerWalks even = of("a-b,a-c");
+        even.begin(0, 0);
+        due("NARROW: of several the least line", even.tells(6), 0);
         due("SLOW: both are one long", y.tells(7), 0);
         y = of("b>a,c-d");
         y.begin(2, 0);
@@ -643,6 +653,12 @@ public final class PromiseTests {
         due("over: no moves", x.fight(1, 1, 1), 0);
         x.begin(4, 0);
         due("last loses: 1 has won", x.fight(1, 1, 0), 1);
+        x = of(sameLines("a-b", 12));
+        x.begin(1, 0);
+        due("as long as can be", x.fight(1, 1, 1), 12);
+        due("of four digits the last first", x.fight(2, 5553, 1), 12);
+        due("play as long as can be", x.play(1, 1, 20), 12);
+        due("no line is left", x.game(3), 4095);
     }
 
     private static void treePromises() {
@@ -700,6 +716,10 @@ public final class PromiseTests {
         MarkerWalks x = of(sameLines("a-b", 7));
         x.begin(1, 0);
         due("who wins goes by one, then 6, 24, 48, each with one behind", x.tree(0), 2 + 2 * (6 + 24 + 48));
+        x = of("c-e,a-e,c>e,f>a,e>b,c<b,e>b,e-f,e-f,a>d,d-c,f<b");
+        x.begin(3, 0);
+        due("twelve deep", x.tree(2), 12);
+        due("63 nodes", x.tree(0), 63);
         x = of("d-b,d-b,d-a,d-a,c-a,d-c,a-d,d-a,d-c");
         x.begin(1, 0);
         due("300 nodes are not too many", x.tree(0), 300);
