@@ -739,7 +739,9 @@ public final class MarkerWalks {
         private static final int MARKER_BITS = 15;
         private static final int MET_BITS = 1023;
         private static final int GONE_BITS = 4095;
-        private static final int MARKER_AND_MET_BITS = 16383;
+        private static final int OTHERS_MET = 9;
+        private static final int OTHERS_MET_BITS = 511;
+        private static final int MARKER_AND_MET_BITS = 8191;
 
         private Stand() {
         }
@@ -760,8 +762,13 @@ public final class MarkerWalks {
             return stand >>> GONE_PLACE & GONE_BITS;
         }
 
+        /** The MARKER's own POINT is always MET, so its bit is left out: what is kept by this needs half the room. */
         static int markerAndMet(int stand) {
-            return stand & MARKER_AND_MET_BITS;
+            int marker = marker(stand);
+            int met = met(stand);
+            int below = met & (1 << marker) - 1;
+            int above = (met >>> marker + 1) << marker;
+            return marker << OTHERS_MET | (below | above) & OTHERS_MET_BITS;
         }
 
         static int withMarker(int stand, int point) {
@@ -1183,8 +1190,10 @@ public final class MarkerWalks {
             Arrays.fill(row, 0);
         }
 
+        /** Only the lowest bits stay, and the highest of these is the sign, as it is in a number of 32 bits. */
         void write(int i, int v) {
-            row[i] = bits == 32 ? v : v & (1 << bits) - 1;
+            int lost = 32 - bits;
+            row[i] = v << lost >> lost;
         }
 
         boolean hasRun(int i, int n) {

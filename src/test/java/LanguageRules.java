@@ -1,4 +1,5 @@
 import java.lang.management.ManagementFactory;
+import java.lang.reflect.Array;
 import java.lang.reflect.Constructor;
 import java.lang.reflect.Field;
 import java.lang.reflect.Method;
@@ -6,6 +7,7 @@ import java.lang.reflect.Modifier;
 import java.nio.charset.StandardCharsets;
 import java.nio.file.Files;
 import java.nio.file.Path;
+import java.util.ArrayList;
 import java.util.Arrays;
 import java.util.List;
 import java.util.Set;
@@ -27,6 +29,10 @@ public final class LanguageRules {
         "\\bstatic\\s*\\{", "Exact\\b", "\\bpackage\\b", "\\bvolatile\\b", "\\bThread\\b", "\\bRandom\\b", "\\bdouble\\b",
         "currentTimeMillis", "nanoTime", "\\bObject\\b", "\\.equals\\(", "hashCode", "toString"};
 
+    private static final long CALLS = 512;
+    private static final long MOST_OBJECTS = 600000;
+    private static final long MOST_ELEMENTS = 7300000;
+
     private static int wrong;
 
     private static void fault(String text) {
@@ -39,6 +45,7 @@ public final class LanguageRules {
         nestedClasses();
         source(Files.readString(Path.of("src/main/java/MarkerWalks.java"), StandardCharsets.US_ASCII));
         room();
+        roomOfNewObjects();
         System.out.println(wrong == 0 ? "the rules are kept" : wrong + " rules are broken");
         if (wrong != 0) {
             System.exit(1);
@@ -164,6 +171,40 @@ public final class LanguageRules {
         long made = bean.getThreadAllocatedBytes(id) - before;
         if (made > 2000) {
             fault("calls make objects: " + made + " bytes");
+        }
+    }
+
+    /** The constructor is the dearest call: were each call of a run a new object, all of them still have to find room. */
+    private static void roomOfNewObjects() throws Exception {
+        long[] sum = new long[2];
+        addUp(new MarkerWalks(), new ArrayList<>(), sum);
+        if (sum[0] * CALLS > MOST_OBJECTS || sum[1] * CALLS > MOST_ELEMENTS) {
+            fault("an object is made of " + sum[0] + " objects with " + sum[1] + " fields and elements");
+        }
+    }
+
+    /** First how many objects and arrays, then how many fields and elements these have. */
+    private static void addUp(Object o, List<Object> seen, long[] sum) throws Exception {
+        if (o == null || seen.stream().anyMatch(s -> s == o)) {
+            return;
+        }
+        seen.add(o);
+        sum[0]++;
+        if (o.getClass().isArray()) {
+            sum[1] += Array.getLength(o);
+            for (int i = 0; i < Array.getLength(o) && !o.getClass().getComponentType().isPrimitive(); i++) {
+                addUp(Array.get(o, i), seen, sum);
+            }
+            return;
+        }
+        for (Field f : o.getClass().getDeclaredFields()) {
+            if (!Modifier.isStatic(f.getModifiers())) {
+                sum[1]++;
+                f.setAccessible(true);
+                if (!f.getType().isPrimitive()) {
+                    addUp(f.get(o), seen, sum);
+                }
+            }
         }
     }
 

@@ -1003,7 +1003,8 @@ public final class OracleRuns {
 
         private void write(int sheet, int i, int v) {
             long span = 1L << bits[sheet];
-            sheets[sheet][i] = (int) Math.floorMod((long) v, span);
+            long half = span / 2;
+            sheets[sheet][i] = (int) (Math.floorMod(v + half, span) - half);
         }
 
         int put(int sheet, int i, int v) {

@@ -785,12 +785,36 @@ public final class PromiseTests {
         due("no error, though it looks like one", x.told(1), 4);
         x.put(0, 0, -1);
         x.put(1, 0, -2);
-        due("the lowest 8 bits", x.number(0, 0), 255);
-        due("the lowest 16 bits", x.number(1, 0), 65534);
+        due("-1 in 8 bits", x.number(0, 0), -1);
+        due("-2 in 16 bits", x.number(1, 0), -2);
+        numberIsRead(x, 0, 127, 127);
+        numberIsRead(x, 0, 128, -128);
+        numberIsRead(x, 0, -128, -128);
+        numberIsRead(x, 0, -129, 127);
+        numberIsRead(x, 0, 255, -1);
+        numberIsRead(x, 0, 256, 0);
+        numberIsRead(x, 0, MIN, 0);
+        numberIsRead(x, 0, MAX, -1);
+        numberIsRead(x, 1, 32767, 32767);
+        numberIsRead(x, 1, 32768, -32768);
+        numberIsRead(x, 1, -32768, -32768);
+        numberIsRead(x, 1, -32769, 32767);
+        numberIsRead(x, 1, 255, 255);
+        numberIsRead(x, 1, 65535, -1);
+        numberIsRead(x, 1, 65536, 0);
+        numberIsRead(x, 1, MAX, -1);
+        numberIsRead(x, 2, 65535, 65535);
+        numberIsRead(x, 2, MIN, MIN);
+        numberIsRead(x, 2, MAX, MAX);
         due("number(4, 0)", x.number(4, 0), BEYOND);
         due("number(3, 99)", x.number(3, 99), MISSING);
         due("number(0, 2)", x.number(0, 2), BEYOND);
         due("number(0, MIN)", x.number(0, MIN), BEYOND);
+    }
+
+    private static void numberIsRead(MarkerWalks x, int sheet, int put, int read) {
+        due("put(" + sheet + ", 0, " + put + ")", x.put(sheet, 0, put), 1);
+        due("number(" + sheet + ", 0) behind put " + put, x.number(sheet, 0), read);
     }
 
     private static void copying() {
@@ -828,6 +852,12 @@ public final class PromiseTests {
         due("number(0, 0)", x.number(0, 0), 2);
         due("number(0, 2)", x.number(0, 2), 4);
         due("number(0, 3)", x.number(0, 3), 3);
+        x.put(0, 0, -7);
+        x.copy(0, 0, 1, 2, 1);
+        due("a number below 0 of 8 bits", x.number(1, 2), -7);
+        x.put(2, 0, -300);
+        x.copy(2, 0, 2, 4, 1);
+        due("a number below 0 of 16 bits", x.number(2, 4), -300);
     }
 
     private static void fillingSheets() {
@@ -873,6 +903,11 @@ public final class PromiseTests {
         x.sheet(0, 8, 0);
         due("an empty one", x.walks(0, 0), 0);
         due("an empty one", x.walks(0, 1), 1);
+        x.sheet(0, 8, 1);
+        x.put(0, 0, 256);
+        due("the lowest 8 bits of 256 are line 0", x.walks(0, 0), 1);
+        x.put(0, 0, -1);
+        due("-1 of 8 bits is no line", x.walks(0, 0), 0);
     }
 
     private static void restPromises() {
