@@ -1,3 +1,5 @@
+import java.io.DataInputStream;
+import java.io.IOException;
 import java.lang.management.ManagementFactory;
 import java.lang.reflect.Array;
 import java.lang.reflect.Constructor;
@@ -29,6 +31,10 @@ public final class LanguageRules {
         "\\bstatic\\s*\\{", "Exact\\b", "\\bpackage\\b", "\\bvolatile\\b", "\\bThread\\b", "\\bRandom\\b", "\\bdouble\\b",
         "currentTimeMillis", "nanoTime", "\\bObject\\b", "\\.equals\\(", "hashCode", "toString"};
 
+    private static final String LIBRARY = "java/lang/Object\\.<init>|java/lang/System\\.arraycopy"
+        + "|java/util/Arrays\\.(copyOf|copyOfRange|fill)|java/lang/(Integer|Long|Math)\\.(compare|max|min|abs|bitCount|floorDiv|floorMod"
+        + "|lowestOneBit|highestOneBit|numberOfLeadingZeros|numberOfTrailingZeros)";
+
     private static final long CALLS = 512;
     private static final long MOST_OBJECTS = 600000;
     private static final long MOST_ELEMENTS = 7300000;
@@ -44,6 +50,10 @@ public final class LanguageRules {
         face();
         nestedClasses();
         source(Files.readString(Path.of("src/main/java/MarkerWalks.java"), StandardCharsets.US_ASCII));
+        library(MarkerWalks.class);
+        for (Class<?> inside : MarkerWalks.class.getDeclaredClasses()) {
+            library(inside);
+        }
         room();
         roomOfNewObjects();
         System.out.println(wrong == 0 ? "the rules are kept" : wrong + " rules are broken");
@@ -153,6 +163,40 @@ public final class LanguageRules {
             if (lines[i].matches(" {4}(?: {4})?\\}") && i - start > 60) {
                 fault("longer than sixty lines, from line " + (start + 1));
                 start = i;
+            }
+        }
+    }
+
+    /** What a class calls stands in its table of constants; whatever isn't of this file must be of the rule's list. */
+    private static void library(Class<?> c) throws IOException {
+        try (DataInputStream in = new DataInputStream(c.getResourceAsStream("/" + c.getName() + ".class"))) {
+            in.skipBytes(8);
+            int n = in.readUnsignedShort();
+            int[] tag = new int[n];
+            int[] first = new int[n];
+            int[] second = new int[n];
+            String[] text = new String[n];
+            for (int i = 1; i < n; i++) {
+                tag[i] = in.readUnsignedByte();
+                switch (tag[i]) {
+                    case 1: text[i] = in.readUTF(); break;
+                    case 3: case 4: in.readInt(); break;
+                    case 5: case 6: in.readLong(); i++; break;
+                    case 7: case 8: case 16: case 19: case 20: first[i] = in.readUnsignedShort(); break;
+                    case 15: in.readUnsignedByte(); in.readUnsignedShort(); break;
+                    default: first[i] = in.readUnsignedShort(); second[i] = in.readUnsignedShort(); break;
+                }
+            }
+            for (int i = 1; i < n; i++) {
+                if (tag[i] >= 9 && tag[i] <= 11) {
+                    String owner = text[first[first[i]]];
+                    String member = owner + "." + text[first[second[i]]];
+                    if (!owner.startsWith("MarkerWalks") && !member.matches(LIBRARY)) {
+                        fault("not of the library that is left: " + member);
+                    }
+                } else if (tag[i] == 17 || tag[i] == 18) {
+                    fault("a call that is made as the program runs (a lambda, or texts joined by +): " + c);
+                }
             }
         }
     }
